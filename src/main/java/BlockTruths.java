@@ -44,8 +44,8 @@ public final class BlockTruths {
     private static final int DIVISOR = 5;
 
     private final Store store;
+    /** Null where nothing was kept; made when it is first needed, then used again. */
     private final Store[] images;
-    private final boolean[] kept;
     private final Question question;
     private final RowJudge rowJudge;
     private final RangeJudge rangeJudge;
@@ -57,10 +57,6 @@ public final class BlockTruths {
     public BlockTruths() {
         store = new Store();
         images = new Store[IMAGES];
-        for (int n = 0; n < IMAGES; n++) {
-            images[n] = new Store();
-        }
-        kept = new boolean[IMAGES];
         question = new Question();
         rowJudge = new RowJudge(question);
         rangeJudge = new RangeJudge(question);
@@ -272,8 +268,10 @@ public final class BlockTruths {
         if (!isImage(n)) {
             return OUTSIDE;
         }
+        if (images[n] == null) {
+            images[n] = new Store();
+        }
         images[n].copyFrom(store);
-        kept[n] = true;
         return 1;
     }
 
@@ -281,7 +279,7 @@ public final class BlockTruths {
         if (!isImage(n)) {
             return OUTSIDE;
         }
-        if (!kept[n]) {
+        if (images[n] == null) {
             return STATE;
         }
         store.copyFrom(images[n]);
@@ -1094,28 +1092,35 @@ public final class BlockTruths {
             int sign = question.signs[place];
             if ((kinds[place] & MAY_BE_NUMBER) == 0) {
                 setBounds(place, NONE, NONE);
-            } else if (isLetter(sign)) {
+                return;
+            }
+            if (isLetter(sign)) {
                 Summary known = block.summaries[sign - 'a'];
                 setBounds(place, known.least, known.greatest);
-            } else if (isFigure(sign) || sign == '#') {
-                setBounds(place, question.numbers[place], question.numbers[place]);
-            } else if (sign == '*') {
-                productBounds(place, question.seconds[place]);
-            } else if (isSum(sign)) {
-                sumBounds(place, sign, question.seconds[place]);
-            } else {
-                changedBounds(place, sign, at(lows, place + 1), at(highs, place + 1));
+                return;
             }
-        }
-
-        /** Of ~, y and %, which change one TERM. */
-        private void changedBounds(int place, int sign, int low, int high) {
-            if (sign == '~') {
-                setBounds(place, -high, -low);
-            } else if (sign == 'y') {
-                byteBounds(place, low, high);
-            } else {
-                leftOverBounds(place, low, high, question.numbers[place]);
+            int low = at(lows, place + 1);
+            int high = at(highs, place + 1);
+            switch (sign) {
+                case '~':
+                    setBounds(place, -high, -low);
+                    break;
+                case 'y':
+                    byteBounds(place, low, high);
+                    break;
+                case '%':
+                    leftOverBounds(place, low, high, question.numbers[place]);
+                    break;
+                case '+':
+                case '-':
+                    sumBounds(place, sign, question.seconds[place]);
+                    break;
+                case '*':
+                    productBounds(place, question.seconds[place]);
+                    break;
+                default:
+                    setBounds(place, question.numbers[place], question.numbers[place]);
+                    break;
             }
         }
 

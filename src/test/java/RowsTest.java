@@ -13,6 +13,7 @@ public final class RowsTest {
         promise5Cell();
         promise6Summary();
         promise6Stale();
+        promise6StaleAtOneEnd();
         promise7Listed();
         promise7Lost();
         promise19Told();
@@ -86,6 +87,21 @@ public final class RowsTest {
         check.due("3", x.drop(2, 0), 1);
         check.due("3 the last of all", x.drop(2, 0), 0);
         check.due("3 room again", x.add(2, 1, 1, 1, 1), 1);
+        dropFromFull();
+    }
+
+    private static void dropFromFull() {
+        BlockTruths x = new BlockTruths();
+        for (int r = 0; r < 8; r++) {
+            x.add(5, r, r, r, r);
+        }
+        check.due("3 no ninth", x.drop(5, 8), Check.UNKNOWN);
+        check.due("3 the first of eight", x.drop(5, 0), 7);
+        check.due("3 all are further ahead", x.cell(5, 6, 3), 7);
+        check.due("3 room for one", x.add(5, 9, 9, 9, 9), 8);
+        check.due("3 the last of eight", x.drop(5, 7), 7);
+        check.due("3 it was the one that came", x.cell(5, 6, 0), 7);
+        check.due("3 no eighth", x.cell(5, 7, 0), GONE + Check.UNKNOWN);
     }
 
     private static void promise4Anew() {
@@ -193,6 +209,20 @@ public final class RowsTest {
         x.add(0, M, 0, 0, 0);
         x.drop(0, 4);
         checkSummary("6 what is missing makes nothing stale", x, 0, 1, new int[] {0, 0, 0, 1, 0});
+    }
+
+    /** The list would be lost anyway, so only one end tells. */
+    private static void promise6StaleAtOneEnd() {
+        BlockTruths x = new BlockTruths();
+        for (int n : new int[] {1, 2, 3, 4, 5, 6, 7}) {
+            x.add(0, n, -n, 0, 0);
+        }
+        x.drop(0, 0);
+        checkSummary("6 the least went", x, 0, 0, new int[] {1, 7, 0, NONE, 1});
+        checkSummary("6 the greatest went", x, 0, 1, new int[] {-7, -1, 0, NONE, 1});
+        check.due("6 both are stale", x.anew(0), 2);
+        checkSummary("6 anew", x, 0, 0, new int[] {2, 7, 0, NONE, 0});
+        checkSummary("6 anew", x, 0, 1, new int[] {-7, -2, 0, NONE, 0});
     }
 
     private static void promise7Listed() {
