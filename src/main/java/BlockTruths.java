@@ -533,8 +533,7 @@ public final class BlockTruths {
         Summary() {
             numbers = new int[LIST];
             counts = new int[LIST];
-            least = NONE;
-            greatest = NONE;
+            clear();
         }
 
         void clear() {
@@ -1208,6 +1207,10 @@ public final class BlockTruths {
         int greatest;
         int sum;
         int missing;
+
+        Tally() {
+            clear();
+        }
 
         void clear() {
             least = NONE;
