@@ -28,6 +28,7 @@ final class AnswerEdges {
         imageKeptTwice();
         imageKeepsAllButThePad();
         imageKeepsSummaries();
+        imageKeepsFullBlocks();
         restoreTells();
         restoredTwice();
         twoImages();
@@ -80,6 +81,14 @@ final class AnswerEdges {
         x.say('1');
         for (int what = 0; what < 6; what++) {
             check.due("a fault, what " + what, x.answer(what), NO);
+        }
+        int[] due = {1, 1, 2, 47, 0, 16};
+        for (int what = 0; what < 6; what++) {
+            BlockTruths y = new BlockTruths();
+            y.add(4, 1, 0, 0, 0);
+            y.add(4, 2, 0, 0, 0);
+            check.ask(y, "=a1");
+            check.due("asked as the first, what " + what, y.answer(what), due[what]);
         }
     }
 
@@ -208,6 +217,23 @@ final class AnswerEdges {
         }
         check.ask(x, "=+ab2");
         totalsAre("one match", x, 0, 1, 1, 1, 0, 2);
+        BlockTruths y = new BlockTruths();
+        y.add(0, 0, 0, 0, 0);
+        y.add(0, -5, 5, 0, 0);
+        check.ask(y, "<01");
+        totalsAre("0, then less", y, 0, -5, 0, -5, 0, 0);
+        totalsAre("0, then more", y, 1, 0, 5, 5, 0, 0);
+        check.due("asked as the first", taken().total(1, 4), 1);
+    }
+
+    /** One block is taken, and stale in b alone. */
+    private BlockTruths taken() {
+        BlockTruths x = new BlockTruths();
+        x.add(0, 1, 1, 1, 1);
+        x.add(0, 1, 2, 1, 1);
+        x.drop(0, 1);
+        check.ask(x, "=a1");
+        return x;
     }
 
     private void totalOfMissing() {
@@ -354,7 +380,7 @@ final class AnswerEdges {
         x.image(1);
         x.anew(2);
         check.listIs("anew", x, 2, 0, 3, 2, 2, 2);
-        while (x.told(12) > 0) {
+        for (int i = 0; i < 4; i++) {
             x.drop(2, 0);
         }
         x.add(2, 9, 9, 9, 9);
@@ -369,6 +395,34 @@ final class AnswerEdges {
         check.summaryIs("missing", x, 2, 2, 5, 5, 1, 1, 0);
         x.add(2, 9, 0, 0, 0);
         check.listIs("it goes on from there", x, 2, 0, 3, 2, 1, 0, 2, 2, 9, 1);
+    }
+
+    private void imageKeepsFullBlocks() {
+        check.sentence("All but the PAD is kept in an IMAGE (0, 1)");
+        for (int b = 0; b < 6; b++) {
+            BlockTruths x = new BlockTruths();
+            for (int r = 0; r < 8; r++) {
+                x.add(b, r % 4, -r % 4, 10 * (r % 4), r == 7 ? M : 5 + r % 4);
+            }
+            x.image(0);
+            for (int r = 0; r < 8; r++) {
+                x.drop(b, 0);
+            }
+            x.anew(b);
+            x.restore(0);
+            check.due("rows of " + b, x.told(10 + b), 8);
+            for (int r = 0; r < 8; r++) {
+                check.due("a of row " + r, x.cell(b, r, 0), r % 4);
+                check.due("b of row " + r, x.cell(b, r, 1), -r % 4);
+                check.due("c of row " + r, x.cell(b, r, 2), 10 * (r % 4));
+                check.due("d of row " + r, x.cell(b, r, 3), r == 7 ? M : 5 + r % 4);
+            }
+            check.listIs("a list of four", x, b, 0, 0, 2, 1, 2, 2, 2, 3, 2);
+            check.listIs("a list of four", x, b, 1, 0, 2, -1, 2, -2, 2, -3, 2);
+            check.listIs("a list of four", x, b, 2, 0, 2, 10, 2, 20, 2, 30, 2);
+            check.listIs("a list of four", x, b, 3, 5, 2, 6, 2, 7, 2, 8, 1);
+            check.summaryIs("one is missing", x, b, 3, 5, 8, 1, 4, 0);
+        }
     }
 
     private void restoreTells() {

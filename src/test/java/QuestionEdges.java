@@ -23,6 +23,8 @@ final class QuestionEdges {
         signsOfALetterAFigureADivisor();
         formsOfTruths();
         formsOfTerms();
+        truthsInTruths();
+        termsInTerms();
         faultAtTheFirstSign();
         faultBehindTheEnd();
         faultBecauseMoreMustCome();
@@ -200,6 +202,60 @@ final class QuestionEdges {
         for (int n : new int[] {0, 1, 10, 100, 123, 909, 990, 999}) {
             numberIs(row, threeFigures(n), n);
         }
+    }
+
+    /** Each kind of TRUTH as the first and as the second part of another. */
+    private void truthsInTruths() {
+        check.sentence("& and two TRUTHS (BOTH), | and two TRUTHS (EITHER), ! and a TRUTH (NOT)");
+        String[] isTrue = {"<01", "=11", "&<01md", "|<10md", "|md<10", "!ma", "md", "!&<10md"};
+        String[] isFalse = {"<10", "=12", "&<10md", "&md<10", "|ma<10", "!md", "ma", "!|<10md"};
+        for (int i = 0; i < isTrue.length; i++) {
+            for (int j = 0; j < isFalse.length; j++) {
+                truthIs(ROW, "&" + isTrue[i] + isFalse[j], 0);
+                truthIs(ROW, "&" + isFalse[j] + isTrue[i], 0);
+                truthIs(ROW, "|" + isTrue[i] + isFalse[j], 1);
+                truthIs(ROW, "|" + isFalse[j] + isTrue[i], 1);
+                truthIs(ROW, "&" + isTrue[i] + isTrue[j], 1);
+                truthIs(ROW, "|" + isFalse[i] + isFalse[j], 0);
+                truthIs(ROW, "|&" + isTrue[i] + isFalse[j] + isTrue[j], 1);
+                truthIs(ROW, "&|" + isTrue[i] + isFalse[j] + isFalse[i], 0);
+            }
+            truthIs(ROW, "!" + isTrue[i], 0);
+            truthIs(ROW, "!" + isFalse[i], 1);
+        }
+    }
+
+    /** Each kind of TERM as the first and as the second part of another. */
+    private void termsInTerms() {
+        check.sentence("+, -, or * and two TERMS; % and a TERM and a figure 1 to 9");
+        String[] terms = {"a", "7", "#123", "~c", "+bc", "-bc", "*3c", "%c7", "yc", "~%-ca4", "y*c+b2", "%+~cy#1307"};
+        int[] values = {100, 7, 123, -999, 1000, -998, 2997, 5, -25, -3, -75, -5};
+        for (int i = 0; i < terms.length; i++) {
+            truthIs(ROW, "=" + terms[i] + told(values[i]), 1);
+            truthIs(ROW, "=~" + terms[i] + told(-values[i]), 1);
+            truthIs(ROW, "=%" + terms[i] + "9" + told(values[i] % 9), 1);
+            for (int j = 0; j < terms.length; j++) {
+                truthIs(ROW, "=+" + terms[i] + terms[j] + told(values[i] + values[j]), 1);
+                truthIs(ROW, "=-" + terms[i] + terms[j] + told(values[i] - values[j]), 1);
+                truthIs(ROW, "=-" + told(values[i] - values[j]) + "-" + terms[i] + terms[j] + "0", 1);
+                truthIs(ROW, "<" + terms[i] + terms[j], values[i] < values[j] ? 1 : 0);
+                int product = (int) Math.max(-1000000, Math.min(1000000, (long) values[i] * values[j]));
+                truthIs(ROW, "=*" + terms[i] + terms[j] + told(product), 1);
+            }
+        }
+    }
+
+    /** A number of up to six figures by signs that tell three at a time; 1000000 is told as 999999 and 1. */
+    private static String told(int n) {
+        int size = Math.min(Math.abs(n), 999999);
+        String signs = threeFigures(size % 1000);
+        if (size >= 1000) {
+            signs = "+*" + threeFigures(size / 1000) + "+#9991" + signs;
+        }
+        if (Math.abs(n) == 1000000) {
+            signs = "+1" + signs;
+        }
+        return n < 0 ? "~" + signs : signs;
     }
 
     private void faultAtTheFirstSign() {

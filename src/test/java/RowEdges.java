@@ -181,14 +181,17 @@ final class RowEdges {
         check.summaryIs("what goes leaves them", x, 0, 0, -999, 999);
         x.anew(0);
         check.summaryIs("anew", x, 0, 0, 4, 6);
-        while (x.told(10) > 0) {
+        for (int i = 0; i < 4; i++) {
             x.drop(0, 0);
         }
+        check.due("none is left", x.told(10), 0);
         check.summaryIs("all went", x, 0, 0, 4, 6);
         x.add(0, 5, 0, 0, 0);
         check.summaryIs("one between came", x, 0, 0, 4, 6);
         x.anew(0);
         check.summaryIs("anew of one", x, 0, 0, 5, 5);
+        check.summaryIs("0, then less", withA(0, 0, -5), 0, 0, -5, 0);
+        check.summaryIs("0, then more", withA(0, 0, 5), 0, 0, 0, 5);
     }
 
     private void orderOfTheList() {
@@ -217,6 +220,19 @@ final class RowEdges {
         check.listIs("missing is not counted", x, 5, 0, 3, 0);
         x.add(5, 3, 0, 0, 0);
         check.listIs("one again", x, 5, 0, 3, 1);
+        BlockTruths y = new BlockTruths();
+        y.add(0, 1, 2, 3, 4);
+        y.add(0, M, M, M, M);
+        y.add(0, 1, 2, 3, 4);
+        y.drop(0, 0);
+        for (int c = 0; c < 4; c++) {
+            check.listIs("in each column", y, 0, c, c + 1, 1);
+            check.due("missing in each column", y.summary(0, c, 2), 1);
+        }
+        y.drop(0, 0);
+        for (int c = 0; c < 4; c++) {
+            check.due("missing in none", y.summary(0, c, 2), 0);
+        }
     }
 
     private void fourthAndFifth() {
@@ -311,6 +327,9 @@ final class RowEdges {
         x = withA(0, 1, 2, 3, 4, 5, 6);
         x.drop(0, 3);
         check.summaryIs("lost, and would be lost", x, 0, 0, 1, 6, 0, NONE, 0);
+        x = withA(0, 3, 1, 2, 4, 5, 6);
+        x.drop(0, 0);
+        check.summaryIs("lost, and would be lost with another first one", x, 0, 0, 1, 6, 0, NONE, 0);
         x = withA(0, M);
         x.drop(0, 0);
         check.summaryIs("no number ever came", x, 0, 0, NONE, NONE, 0, 0, 0);
@@ -346,6 +365,16 @@ final class RowEdges {
         BlockTruths full = withA(0, 8, 7, 7, 7, 7, 7, 7, 6);
         full.anew(0);
         check.listIs("the first and the last of eight", full, 0, 0, 8, 1, 7, 6, 6, 1);
+        BlockTruths y = new BlockTruths();
+        y.add(2, M, M, M, 4);
+        y.add(2, M, M, 3, 4);
+        y.add(2, M, 2, 3, 4);
+        for (int time = 0; time < 3; time++) {
+            for (int c = 0; c < 4; c++) {
+                check.summaryIs("missing is counted afresh", y, 2, c, c == 0 ? NONE : c + 1, c == 0 ? NONE : c + 1, 3 - c, c == 0 ? 0 : 1, 0);
+            }
+            check.due("none stale", y.anew(2), 0);
+        }
     }
 
     private void anewOfNoRows() {
