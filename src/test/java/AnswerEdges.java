@@ -409,6 +409,9 @@ final class AnswerEdges {
                 x.drop(b, 0);
             }
             x.anew(b);
+            for (int r = 0; r < 8; r++) {
+                x.add(b, 500 + r, 500, 500, 500);
+            }
             x.restore(0);
             check.due("rows of " + b, x.told(10 + b), 8);
             for (int r = 0; r < 8; r++) {

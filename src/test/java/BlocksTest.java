@@ -246,15 +246,13 @@ public final class BlocksTest {
         // a may be any, b is 1, c is missing: parts of which each MAY is known
         String[] told = {"<b0", "<0b", "<c0", "ma", "=0*0a", "<b+*ca1", "=a1"};
         int[] mays = {2, 1, 4, 3, 5, 4, 7};
-        BlockTruths x = new BlockTruths();
-        x.add(2, 0, 1, M, 0);
-        x.add(2, 5, 1, M, 0);
-        x.add(2, M, 1, M, 0);
         for (int i = 0; i < told.length; i++) {
+            BlockTruths x = threeRows();
             mayIs(x, 2, told[i], mays[i]);
             mayIs(x, 2, "!" + told[i], notOf(mays[i]));
             mayIs(x, 2, "!!" + told[i], mays[i]);
             for (int j = 0; j < told.length; j++) {
+                x = threeRows();
                 int both = joined(mays[i], mays[j], false);
                 int either = joined(mays[i], mays[j], true);
                 mayIs(x, 2, "&" + told[i] + told[j], both);
@@ -267,6 +265,14 @@ public final class BlocksTest {
                 check.due("13 second part of a part", x.may(2, 2 + told[i].length()), mays[j]);
             }
         }
+    }
+
+    private static BlockTruths threeRows() {
+        BlockTruths x = new BlockTruths();
+        x.add(2, 0, 1, M, 0);
+        x.add(2, 5, 1, M, 0);
+        x.add(2, M, 1, M, 0);
+        return x;
     }
 
     private static int notOf(int may) {

@@ -2,8 +2,9 @@ import java.util.Random;
 
 /** Many runs of at most 512 calls, by seeds that stay the same: each answer is the model's. */
 public final class ModelTest {
-    private static final int RUNS = 4000;
-    private static final int CALLS = 512;
+    private static final int RUNS = 5000;
+    /** An object is used for 512 calls at most; the rest of them look at the verdicts, when a run ends. */
+    private static final int CALLS = 400;
     private static final Check check = new Check();
 
     private final Random random;
@@ -37,13 +38,12 @@ public final class ModelTest {
             if (!rest.isEmpty()) {
                 say(rest.charAt(0));
                 rest = rest.substring(1);
+                i++;
             } else {
                 call();
             }
-            if (i % 100 == 99) {
-                neverSkippedNeverWrong();
-            }
         }
+        neverSkippedNeverWrong();
     }
 
     private void call() {
@@ -124,7 +124,7 @@ public final class ModelTest {
 
     private void lookAtBlocks(int kind) {
         int b = block();
-        int place = edgeOr(random.nextInt(Math.max(1, x.told(0))), x.told(0));
+        int place = edgeOr(random.nextInt(Math.max(1, m.told(0))), m.told(0));
         if (kind < 28) {
             int r = row();
             check.due(name + "truth(" + b + ", " + r + ")", x.truth(b, r), m.truth(b, r));
@@ -152,7 +152,7 @@ public final class ModelTest {
             int verdict = x.verdict(b, 0);
             int may = x.verdict(b, 1);
             int byRanges = x.may(b, 0);
-            for (int r = 0; r < x.told(10 + b) && verdict >= 0; r++) {
+            for (int r = 0; r < m.told(10 + b) && verdict >= 0; r++) {
                 int truth = x.truth(b, r);
                 int bit = new int[] {2, 1, 4}[truth];
                 check.holds(name + "a match is never skipped", truth != 1 || verdict != 0);
