@@ -31,7 +31,7 @@ final class Document {
     }
 
     private static void tellGaps(String text, boolean[] quoted) {
-        int begin = text.indexOf("## Terms");
+        int begin = text.indexOf("## What it is");
         int end = text.indexOf("## Not promised");
         StringBuilder gap = new StringBuilder();
         for (int i = Math.max(0, begin); i < end; i++) {
@@ -47,9 +47,9 @@ final class Document {
         }
     }
 
-    /** Without marks of layout, headings and signatures. */
+    /** Without the face, which FaceTest looks at, marks of layout, headings and signatures. */
     private static String plain(String text) {
-        return text.replaceAll("(?m)^## Promise.*$", "").replaceAll("`(int \\w+|BlockTruths)\\([^`]*\\)`:", "")
+        return text.replaceAll("(?s)```java.*?```", "").replaceAll("(?m)^## Promise.*$", "").replaceAll("`(int \\w+|BlockTruths)\\([^`]*\\)`:", "")
             .replaceAll("```\\w*", "").replaceAll("=======* \\d?", "").replaceAll("\\s+", " ").trim();
     }
 }

@@ -4,6 +4,7 @@ import java.io.IOException;
 public final class EdgesTest {
     public static void main(String[] args) throws IOException {
         Check check = new Check();
+        new OpeningEdges(check).all();
         new RowEdges(check).all();
         new QuestionEdges(check).all();
         new RangeEdges(check).all();

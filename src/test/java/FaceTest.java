@@ -24,6 +24,7 @@ public final class FaceTest {
         nothingElseIsSeen();
         classesInside();
         wordsOfTheSource();
+        faceOfTheDocument();
         check.end("FaceTest");
     }
 
@@ -116,5 +117,18 @@ public final class FaceTest {
             + "|protected|double|float|Object|equals|hashCode|toString|System\\.(?!arraycopy)\\w+|\\w+Exact|Thread|Random)\\b|->|::|@";
         Matcher found = Pattern.compile(banned).matcher(code);
         check.holds("no word that the rules leave out", !found.find());
+    }
+
+    /** Each line of the document's face stands in the program, with the names of its parameters. */
+    private static void faceOfTheDocument() throws IOException {
+        String document = Files.readString(Path.of("../shared/DOC.md"));
+        String source = Files.readString(Path.of("src/main/java/BlockTruths.java"));
+        int begin = document.indexOf("```java");
+        int end = document.indexOf("```", begin + 7);
+        check.holds("the document has a face", begin >= 0 && end > begin);
+        for (String line : document.substring(begin + 7, end).split("\n")) {
+            String due = line.trim().replaceAll("\\);$", ") {");
+            check.holds("the face has: " + due, source.contains(due));
+        }
     }
 }
