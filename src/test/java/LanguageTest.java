@@ -246,7 +246,7 @@ public final class LanguageTest extends TreePathScanner<Void, Void> {
         Random random = new Random(9);
         for (int run = 0; run < 1500; run++) {
             BlockTruths x = new BlockTruths();
-            for (int i = 0; i < 512; i++) {
+            for (int i = 0; i < 511; i++) {
                 Method one = i % 3 == 0 ? named(all, i % 2 == 0 ? "add" : "say") : all.get(random.nextInt(all.size()));
                 Object[] arguments = argumentsOf(one, random);
                 try {
